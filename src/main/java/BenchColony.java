@@ -1483,8 +1483,6 @@ public final class BenchColony {
         void clear() {
             hourCount = 0;
             rumbleCount = 0;
-            trainCount = 0;
-            Arrays.fill(comings, 0);
         }
 
         int quietCount() {

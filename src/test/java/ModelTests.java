@@ -49,6 +49,9 @@ public final class ModelTests {
                 made += tellRoom();
             } else {
                 String[] call = Face.CALLS[random.nextInt(Face.CALLS.length)].split(" ");
+                if (call[0].equals("sit") || call[0].equals("image") && random.nextInt(4) != 0) {
+                    call = "sit 2".split(" ");
+                }
                 both(call[0], numbers(call[0], Integer.parseInt(call[1])));
                 made++;
             }
@@ -93,24 +96,33 @@ public final class ModelTests {
         }
         return switch (name) {
             case "feed" -> random.nextInt();
-            case "bench" -> i == 0 ? random.nextInt(6) : random.nextInt(8);
-            case "person" -> random.nextInt(7);
+            case "bench" -> i == 0 ? someBench() : random.nextInt(8);
+            case "person" -> i == 0 ? someone() : random.nextInt(7);
             case "room" -> random.nextInt(100);
-            case "coal" -> i == 0 ? random.nextInt(6) : pick(random.nextInt(1000), 999, 1000, 7);
-            case "eats", "left" -> name.equals("eats") && i == 0 ? random.nextInt(7) : pick(random.nextInt(101), 3, 5);
+            case "coal" -> i == 0 ? someBench() : pick(random.nextInt(1000), 999, 1000, 7);
+            case "eats", "left" -> name.equals("eats") && i == 0 ? someone() : pick(random.nextInt(101), 3, 5);
             case "trainAt" -> pick(random.nextInt(78), random.nextInt(5));
             case "comes", "surely" -> random.nextInt(101);
             case "believers" -> random.nextInt(22);
             case "shout" -> i == 0 ? random.nextInt(101) : i == 3 ? random.nextInt(2) : random.nextInt(8);
             case "rests", "rest" -> pick(random.nextInt(101), random.nextInt(20));
             case "years" -> i == 0 ? random.nextInt(65538) : random.nextInt(92);
-            case "yearsAt", "happy" -> i == 0 ? random.nextInt(7) : i == 1 ? random.nextInt(65538) : random.nextInt(92);
-            case "preach" -> i == 0 ? random.nextInt(7) : random.nextInt(4) - 1;
-            case "sit", "may" -> random.nextInt(i == 0 ? 7 : 6);
+            case "yearsAt", "happy" -> i == 0 ? someone() : i == 1 ? random.nextInt(65538) : random.nextInt(92);
+            case "preach" -> i == 0 ? someone() : random.nextInt(4) - 1;
+            case "sit", "may" -> i == 0 ? someone() : someBench();
             case "back" -> random.nextInt(4);
             case "size" -> random.nextInt(15);
-            default -> random.nextInt(8);
+            default -> someone();
         };
+    }
+
+    /** Mostly one who is there, now and then the next number. */
+    private int someone() {
+        return random.nextInt(Math.max(1, model.call("size", 4) + (random.nextInt(8) == 0 ? 1 : 0)));
+    }
+
+    private int someBench() {
+        return random.nextInt(Math.max(1, model.call("size", 3) + (random.nextInt(8) == 0 ? 1 : 0)));
     }
 
     // ---- texts
@@ -181,23 +193,23 @@ public final class ModelTests {
     /** Mostly a good room, now and then one that tells too much, or something twice. */
     private List<String> roomTokens() {
         List<String> tokens = new ArrayList<>();
-        int wide = 1 + random.nextInt(pick(3, 9));
-        int tall = 1 + random.nextInt(pick(3, 9));
+        int wide = 1 + random.nextInt(pick(3, 5, 9, 9));
+        int tall = 1 + random.nextInt(pick(3, 5, 9, 9));
         line(tokens, "room wide", wide, "tall", tall, "stove", random.nextInt(wide), random.nextInt(tall), "heat",
-            pick(1 + random.nextInt(60), 20, 30, 40), "stock", pick(random.nextInt(201), random.nextInt(30)));
-        int benches = 1 + random.nextInt(random.nextInt(12) == 0 ? 7 : 6);
+            pick(1 + random.nextInt(60), 20, 30, 40, 50, 60), "stock", pick(random.nextInt(201), random.nextInt(30)));
+        int benches = random.nextInt(12) == 0 ? 7 : 1 + random.nextInt(pick(2, 6, 6));
         for (int b = 0; b < benches; b++) {
             line(tokens, "bench", "b" + (char) ('a' + b), new String[] {"open", "upper", "island"}[random.nextInt(3)],
                 "at", random.nextInt(wide), random.nextInt(tall), "seats", 1 + random.nextInt(3), "rent",
                 pick(random.nextInt(31), random.nextInt(4)));
         }
-        int people = random.nextInt(random.nextInt(12) == 0 ? 9 : 8);
+        int people = random.nextInt(12) == 0 ? 8 : pick(random.nextInt(8), 4 + random.nextInt(4));
         for (int p = 0; p < people; p++) {
             line(tokens, "person", "p" + (char) ('a' + p),
                 new String[] {"third", "first", "lady", "child"}[random.nextInt(4)], "for",
                 new String[] {"rome", "york", "room", "on"}[random.nextInt(pick(1, 2, 4))], "cold",
-                pick(random.nextInt(61), random.nextInt(20)));
-            if (random.nextInt(3) == 0) {
+                pick(random.nextInt(61), random.nextInt(20), 0));
+            if (random.nextInt(8) == 0) {
                 tokens.add("on");
                 tokens.add("b" + (char) ('a' + random.nextInt(benches)));
             }
