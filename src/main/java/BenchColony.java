@@ -357,7 +357,8 @@ public final class BenchColony {
             return refusedWith(NO_SUCH, NO_FIGURE);
         }
         creed.begin(now);
-        return answered(creed.pull(colony.folk, p));
+        creed.pull(colony.folk);
+        return answered(creed.pulls[p]);
     }
 
     public int believers(int rounds) {
@@ -1077,7 +1078,7 @@ public final class BenchColony {
                 return false;
             }
             int other = found;
-            if (other == one || told.folk.weight(one, other) > 0) {
+            if (other == one || told.folk.heeds(one, other)) {
                 return blame(AGAIN);
             }
             tape.step();
@@ -1088,7 +1089,7 @@ public final class BenchColony {
             return true;
         }
 
-        /** Who is told to be unsure can't be told: 0 means that nothing is told yet. */
+        /** No LINE tells that somebody is unsure: 0 means that nothing is told of him yet. */
         private boolean readBelief(int belief) {
             if (!findPerson()) {
                 return false;
@@ -1377,7 +1378,9 @@ public final class BenchColony {
         final long[] towns = new long[MOST_PEOPLE];
         final int[] colds = new int[MOST_PEOPLE];
         final int[] kinBits = new int[MOST_PEOPLE];
-        final int[] weights = new int[MOST_PEOPLE * MOST_PEOPLE];
+        final int[] heeders = new int[MOST_HEEDS];
+        final int[] heededs = new int[MOST_HEEDS];
+        final int[] weights = new int[MOST_HEEDS];
         int count;
         int kinCount;
         int heedCount;
@@ -1387,7 +1390,6 @@ public final class BenchColony {
             kinCount = 0;
             heedCount = 0;
             Arrays.fill(kinBits, 0);
-            Arrays.fill(weights, 0);
         }
 
         boolean has(int p) {
@@ -1408,12 +1410,22 @@ public final class BenchColony {
             kinCount++;
         }
 
-        int weight(int one, int other) {
-            return weights[one * MOST_PEOPLE + other];
+        boolean heeds(int one, int other) {
+            for (int i = 0; i < heedCount; i++) {
+                if (heeders[i] == one && heededs[i] == other) {
+                    return true;
+                }
+            }
+            return false;
         }
 
         void addHeed(int one, int other, int weight) {
-            weights[one * MOST_PEOPLE + other] = weight;
+            if (heedCount >= MOST_HEEDS) {
+                return;
+            }
+            heeders[heedCount] = one;
+            heededs[heedCount] = other;
+            weights[heedCount] = weight;
             heedCount++;
         }
 
@@ -1863,7 +1875,8 @@ public final class BenchColony {
     /** BELIEF in ROUNDS, tried out apart from what is so NOW. */
     private static final class Creed {
         final int[] beliefs = new int[MOST_PEOPLE];
-        final int[] turned = new int[MOST_PEOPLE];
+        /** How much each is drawn to believe. */
+        final int[] pulls = new int[MOST_PEOPLE];
 
         void begin(Now now) {
             System.arraycopy(now.beliefs, 0, beliefs, 0, MOST_PEOPLE);
@@ -1873,34 +1886,33 @@ public final class BenchColony {
             System.arraycopy(beliefs, 0, now.beliefs, 0, MOST_PEOPLE);
         }
 
-        /** Without anybody to heed the pull is 0, by which nobody changes. */
-        int pull(Folk folk, int p) {
-            int sum = 0;
-            for (int q = 0; q < folk.count; q++) {
-                sum += folk.weights[p * MOST_PEOPLE + q] * beliefs[q];
+        void pull(Folk folk) {
+            Arrays.fill(pulls, 0);
+            for (int i = 0; i < folk.heedCount; i++) {
+                pulls[folk.heeders[i]] += folk.weights[i] * beliefs[folk.heededs[i]];
             }
-            return sum;
         }
 
-        /** One ROUND; answers who changed, as bits. */
+        /** One ROUND; answers who changed, as bits. All pulls are known before anybody changes. */
         int step(Folk folk) {
+            pull(folk);
             int changed = 0;
             for (int p = 0; p < folk.count; p++) {
-                turned[p] = turnedBelief(folk, p);
-                if (turned[p] != beliefs[p]) {
+                int turned = turnedBelief(folk.kinds[p], p);
+                if (turned != beliefs[p]) {
+                    beliefs[p] = turned;
                     changed |= 1 << p;
                 }
             }
-            System.arraycopy(turned, 0, beliefs, 0, folk.count);
             return changed;
         }
 
-        private int turnedBelief(Folk folk, int p) {
-            if (folk.kinds[p] == LADY && beliefs[p] == 1 || folk.kinds[p] == FIRST && beliefs[p] == -1) {
+        /** Who heeds nobody has a pull of 0, by which nobody changes. */
+        private int turnedBelief(int kind, int p) {
+            if (pulls[p] == 0 || kind == LADY && beliefs[p] == 1 || kind == FIRST && beliefs[p] == -1) {
                 return beliefs[p];
             }
-            int pulled = pull(folk, p);
-            return pulled > 0 ? 1 : pulled < 0 ? -1 : beliefs[p];
+            return pulls[p] > 0 ? 1 : -1;
         }
 
         /** A ROUND that changes nothing is followed by none that does. */
