@@ -223,6 +223,11 @@ public final class PromiseTests {
 
     private static void faultsOfNames() {
         String two = BENCH + ";person p third for x cold 0;person q lady for x cold 0";
+        good(BARE + ";bench a open at 1 1 seats 1 rent 1;bench aa open at 1 2 seats 1 rent 1;person ba child for x cold 0 on aa;"
+            + "person b child for x cold 0 on a;person aaaaaaaa child for x cold 0;kin b ba;kin b aaaaaaaa");
+        run(7, BENCH + ";person p third for a cold 0;person q third for aa cold 0;person r third for aa cold 0;"
+            + "person s third for aaaaaaaa cold 0;person t third for abaaaaaa cold 0", "person 0 5 = 0", "person 1 5 = 4",
+            "person 3 5 = 0", "person 4 5 = 0");
         faulty(2, BENCH + ";person p third for x cold 0 on ^c");
         faulty(2, BENCH + ";person p third for x cold 0 on ^p");
         faulty(2, two + ";person r third for x cold 0 on ^q");
