@@ -3,34 +3,34 @@
  * by hand. A step is told as "call number number = answer"; a boolean counts 1 or 0.
  */
 public final class PromiseTests {
-    private static final String STATION = "room wide 6 tall 4 stove 0 0 heat 30 stock 10;"
+    static final String STATION = "room wide 6 tall 4 stove 0 0 heat 30 stock 10;"
         + "bench oak open at 1 0 seats 2 rent 5;bench top upper at 3 0 seats 1 rent 9;"
         + "bench isle island at 2 2 seats 1 rent 3;bench far open at 5 3 seats 3 rent 1;"
         + "person al third for rome cold 20 on oak;person bea lady for rome cold 14 on oak;"
         + "person cy first for york cold 18;person di child for york cold 25;person ed third for rome cold 0 on far;"
         + "kin al ed;heeds al bea weight 3;heeds bea cy weight 2;heeds di al weight 1;heeds ed di weight 4;"
         + "believes bea;denies cy;rumble 7;rumble 16;quiet 10";
-    private static final String BARE = "room wide 3 tall 3 stove 0 0 heat 20 stock 6";
-    private static final String BENCH = BARE + ";bench b open at 1 1 seats 2 rent 4";
-    private static final String SOFA = BARE + ";bench sofa open at 1 1 seats 2 rent 4";
+    static final String BARE = "room wide 3 tall 3 stove 0 0 heat 20 stock 6";
+    static final String BENCH = BARE + ";bench b open at 1 1 seats 2 rent 4";
+    static final String SOFA = BARE + ";bench sofa open at 1 1 seats 2 rent 4";
     /** Nobody waits here. */
-    private static final String EMPTY = BARE + ";bench b open at 1 1 seats 2 rent 4;bench c upper at 2 2 seats 1 rent 0";
+    static final String EMPTY = BARE + ";bench b open at 1 1 seats 2 rent 4;bench c upper at 2 2 seats 1 rent 0";
     /** Warm enough for x: both benches (8 and 4); y: the first alone by sort; z: the first alone by cold. */
-    private static final String TIGHT = "room wide 3 tall 1 stove 0 0 heat 12 stock 7;"
+    static final String TIGHT = "room wide 3 tall 1 stove 0 0 heat 12 stock 7;"
         + "bench a open at 1 0 seats 1 rent 9;bench b island at 2 0 seats 1 rent 2;"
         + "person x child for rome cold 0;person y third for rome cold 0;person z lady for york cold 5";
     /** Three in a row, each on a bench of his own, 16, 12 and 8 warm. */
-    private static final String ROW = "room wide 4 tall 1 stove 0 0 heat 20 stock 0;"
+    static final String ROW = "room wide 4 tall 1 stove 0 0 heat 20 stock 0;"
         + "bench a open at 1 0 seats 2 rent 1;bench b open at 2 0 seats 1 rent 2;bench c open at 3 0 seats 1 rent 30;"
         + "person x third for rome cold 16 on a;person y third for rome cold 13 on b;person z child for rome cold 0 on c";
     /** a, b, c and d of one town; c and d are kin, e is a child, f waits for another town. */
-    private static final String TOWN = SOFA + ";person a third for rome cold 1;person b lady for rome cold 2;"
+    static final String TOWN = SOFA + ";person a third for rome cold 1;person b lady for rome cold 2;"
         + "person c first for rome cold 3;person d third for rome cold 4;person e child for rome cold 5;"
         + "person f third for bonn cold 6";
-    private static final String EATERS = SOFA + ";person a third for rome cold 0;person b child for rome cold 0;"
+    static final String EATERS = SOFA + ";person a third for rome cold 0;person b child for rome cold 0;"
         + "person c lady for rome cold 0;person d child for rome cold 0";
     /** Two who would be each of the other's mind, for ever. */
-    private static final String QUARREL = SOFA + ";person a third for rome cold 0;person b child for rome cold 0;"
+    static final String QUARREL = SOFA + ";person a third for rome cold 0;person b child for rome cold 0;"
         + "heeds a b weight 2;heeds b a weight 3;believes a;denies b";
 
     private static int passed;
