@@ -157,6 +157,11 @@ final class TermSentences {
             "packedAt 4 = 1", "packedAt 5 = 0");
         s.answers(row + ";person g third for x cold 37", "packed = 6", "packedAt 6 = -2", "packedAt 0 = 5");
         s.answers(row + ";person g third for x cold 36", "packed = 6", "packedAt 6 = -2", "packedAt 5 = 0", "bestSeat = 0");
+        // two who may sit on the first bench alone, and one who may give way to either, but not to both
+        s.answers("room wide 9 tall 1 stove 0 0 heat 40 stock 0;bench a open at 1 0 seats 1 rent 0;"
+            + "bench b upper at 2 0 seats 1 rent 0;bench c upper at 3 0 seats 1 rent 0;person p child for x cold 0;"
+            + "person q lady for x cold 0;person r lady for x cold 0", "packed = 2", "packedAt 0 = 1", "packedAt 1 = 0",
+            "packedAt 2 = -2");
         of("; of like ones the first by people's benches (standing behind all).");
         s.answers(BENCH + ";bench c open at 2 1 seats 2 rent 0;person p third for x cold 0;person q third for x cold 0;"
             + "person r third for x cold 0", "packedAt 0 = 0", "packedAt 1 = 0", "packedAt 2 = 1", "cheapest = 4");
